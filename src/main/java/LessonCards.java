@@ -13,7 +13,7 @@ public final class LessonCards {
     private static final int PLANNED_DAYS = 60, EVENED_DAYS = 60, LONGEST_DELAY = 20;
 
     private static final int BOXES = 0, STRENGTHS = 1, TABLE = 2, AS_GIVEN = 3;
-    private static final int AGAIN = 0, HARD = 1, GOOD = 2, EASY = 3, ANSWERS = 4;
+    private static final int AGAIN = 0, HARD = 1, GOOD = 2, EASY = 3;
     private static final int DUE = 1, FRESH = 2, LEECH = 3;
 
     private static final int CERTAIN = 1000, DUE_BELOW = 900, LEECH_AGAINS = 8, MOST_BACKS = 2;
@@ -781,7 +781,8 @@ public final class LessonCards {
         }
 
         Memory memoryAt(int place) {
-            return place < 0 ? null : memoryOf(place / SIDES, place % SIDES);
+            Hand hand = place < 0 ? null : handAt(place / SIDES);
+            return hand == null ? null : hand.memoryAt(place % SIDES);
         }
 
         void beginDay(int day) {

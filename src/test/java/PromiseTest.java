@@ -194,6 +194,11 @@ public final class PromiseTest {
         due("3 RING ahead of FULL", x.lean(3, 7), RING);
         due("3 what was refused is not there", x.lean(6, 3), 1);
         due("3 two ways to one card are no ring", x.lean(7, 0), 2);
+        due("3 the longest ring", x.lean(0, 7), RING);
+        due("3 a way of its own", x.lean(4, 0), 1);
+        due("3 over it", x.lean(1, 4), 2);
+        due("3 a ring over both", x.lean(0, 1), RING);
+        due("3 no ring", x.lean(5, 4), 1);
     }
 
     private static void leanedCardsWait() {
@@ -775,6 +780,18 @@ public final class PromiseTest {
             due("14 KNOWN else", y.memory(0, 0, 0, 7), number == 1066 ? 0 : 1);
             due("15 when", y.when(0, 0, 0), number == 1066 ? 2 : 3);
         }
+        int[] days = {30, 5};
+        int[] strong = {48001, 4267};
+        for (int i = 0; i < 2; i++) {
+            LessonCards y = answeredOnce(2, HARD);
+            y.table(HARD, strong[i]);
+            again(y, 1, HARD);
+            y.day(0, days[i] - 1);
+            due("14 KNOWN yet", y.memory(0, 0, 0, 7), 1);
+            due("15 when", y.when(0, 0, 0), i == 0 ? 47 : 6);
+            y.day(0, 1);
+            due("14 CHANCE", y.memory(0, 0, 0, 5), chance(i == 0 ? 9 : 18));
+        }
         LessonCards z = answeredOnce(0, HARD);
         for (int i = 0; i < 100; i++) {
             z.day(0, 1000);
@@ -1061,6 +1078,17 @@ public final class PromiseTest {
         due("21 load", x.load(2), 2);
         due("21 load", x.load(3), 2);
         due("21 load", x.load(4), 1);
+        LessonCards y = withCards(4);
+        y.start(0);
+        y.answer(0, GOOD);
+        y.answer(0, EASY);
+        y.answer(0, EASY);
+        y.answer(0, HARD);
+        due("20 even", y.even(0, 0), 2);
+        due("22 the last card first", y.put(3, 0), 1);
+        due("22 then the first", y.put(0, 0), 2);
+        due("22 then this", y.put(1, 0), 4);
+        due("22 and this", y.put(2, 0), 4);
         due("22 no card", x.put(3, 0), NONE);
         due("22 no card", x.put(-1, 0), NONE);
         due("22 no side", x.put(2, 1), NONE);
@@ -1082,6 +1110,8 @@ public final class PromiseTest {
         due("23 guess 0", x.test(3, 1, 0), NONE);
         due("23 guess 500", x.test(3, 1, 500), NONE);
         due("24 no test has begun", x.told(9, 9), EMPTY);
+        due("23 the least numbers", x.test(2, 1, 1), 1);
+        due("23 the greatest numbers", x.test(8, 499, 499), 1);
         due("23 test", x.test(3, 100, 200), 1);
         due("26 the least", x.level(), 0);
         due("24 question 0", x.told(0, 1), NONE);
