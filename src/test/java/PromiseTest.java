@@ -50,6 +50,8 @@ public final class PromiseTest {
         better();
         other();
         check();
+        manyCards();
+        manySides();
         Dues.end("PromiseTest");
     }
 
@@ -1328,5 +1330,53 @@ public final class PromiseTest {
                 due("32 check", x.check(pupil), 1);
             }
         }
+    }
+
+    /** As many cards as there can be: in a chain, and all in THE ROW. */
+    private static void manyCards() {
+        LessonCards x = withCards(120);
+        for (int i = 1; i < 120; i++) {
+            due("3 a long chain", x.lean(i, i - 1), 1);
+        }
+        due("3 its ring", x.lean(0, 119), RING);
+        due("3 over it", x.lean(119, 0), 2);
+        due("8 the first of the chain alone", x.start(0), 1);
+        LessonCards y = withCards(120);
+        y.most(400, 100);
+        startAndAnswer(y, HARD);
+        y.day(0, 1);
+        due("8 100 DUE ones and 20 NEW ones", y.start(0), 120);
+        due("10 back to its end", y.answer(0, AGAIN), 120);
+        due("11 skip", y.skip(0), 120);
+        due("12 bury the last NEW one", y.bury(0, 119, 0), 119);
+        due("12 bury what is first", y.bury(0, 2, 0), 118);
+        due("9 next", y.next(0), 12);
+        due("19 planned by DUE ones alone", y.plan(0, 0), 98);
+        due("16 THE ROW", y.pupil(0, 4), 118);
+    }
+
+    private static void manySides() {
+        LessonCards x = new LessonCards();
+        for (int i = 0; i < 48; i++) {
+            x.card(4);
+        }
+        x.most(0, 100);
+        for (int side = 0; side < 4; side++) {
+            due("8 next sides", x.start(3), 48);
+            for (int i = 0; i < 48; i++) {
+                x.answer(3, EASY);
+            }
+        }
+        due("20 all at once", x.even(3, 0), 192);
+        due("21 load", x.load(4), 192);
+        due("20 on 21 days", x.even(3, 20), 10);
+        due("21 load", x.load(22), 10);
+        due("21 the last ones", x.load(23), 2);
+        due("22 the last ones", x.put(47, 2), 23);
+        due("22 by card, then by side", x.put(2, 1), 4);
+        due("22 by card, then by side", x.put(2, 2), 5);
+        due("16 KNOWN", x.pupil(3, 0), 48);
+        due("31 by STRENGTHS", x.other(3, 1, 47, 3), 6000);
+        due("32 check", x.check(3), 1);
     }
 }
