@@ -414,6 +414,7 @@ public final class LessonCards {
             if (memory != null) {
                 memory.move(ruleNow, GOOD, numbers[GOOD], today + i, curve);
             }
+            // What is BURIED is left out on the first day alone.
             if (i == 0) {
                 trial.forgetToday();
             }
