@@ -21,6 +21,7 @@ public final class AheadEdgesTest {
         evenPutsOffByTwenty();
         evenOfTwoFirstDays();
         evenIsTheLeast();
+        evenOfAsManyAsCallsBear();
         evenOfBuriedAndSiblings();
         evenOfNothing();
         loadOfDays();
@@ -355,6 +356,28 @@ public final class AheadEdgesTest {
             due("20 by 2", x.even(0, 2), (cards + 2) / 3);
             due("20 by 5", x.even(0, 5), cards <= 6 ? 1 : 2);
         }
+    }
+
+    /** 400 sides are as many as can be answered in 512 calls, with calls left to even them out and to look. */
+    private static void evenOfAsManyAsCallsBear() {
+        LessonCards x = new LessonCards();
+        for (int card = 0; card < 100; card++) {
+            x.card(4);
+        }
+        x.most(0, 100);
+        for (int side = 0; side < 4; side++) {
+            x.start(0);
+            for (int card = 0; card < 100; card++) {
+                x.answer(0, HARD);
+            }
+        }
+        due("20 21 days of 19 are 399", x.even(0, 20), 20);
+        due("21 the first day", x.load(1), 20);
+        due("21 the 20th day", x.load(20), 20);
+        due("21 the 21st day", x.load(21), 0);
+        due("22 the last side", x.put(99, 3), 20);
+        due("22 the 200th side, by card, then by side", x.put(49, 3), 10);
+        due("20 none put off", x.even(0, 0), 400);
     }
 
     /** "EVENED: what is BURIED, and each side of a card, too." */

@@ -209,6 +209,18 @@ public final class DayEdgesTest {
         x.most(3, 0);
         x.start(0);
         row("8 the first three of them", x, 0, 4, 12, 0);
+        int[][] orders = {{HARD, GOOD, EASY, 0, 4, 8}, {HARD, EASY, GOOD, 0, 8, 4}, {GOOD, HARD, EASY, 4, 0, 8},
+            {GOOD, EASY, HARD, 8, 0, 4}, {EASY, HARD, GOOD, 4, 8, 0}, {EASY, GOOD, HARD, 8, 4, 0}};
+        for (int[] order : orders) {
+            LessonCards z = Made.likeCards(3);
+            z.start(0);
+            for (int i = 0; i < 3; i++) {
+                z.answer(0, order[i]);
+            }
+            z.day(0, 4);
+            z.start(0);
+            row("8 three unlike ones", z, 0, order[3], order[4], order[5]);
+        }
         LessonCards y = Made.strong(1066);
         y.card(1);
         y.card(1);

@@ -329,6 +329,11 @@ public final class LevelEdgesTest {
         x = new LessonCards();
         x.test(4, 100, 200);
         due("24 8, 8, 8, 1: questions 1 and 2 are alike", x.told(3, 0), 1);
+        x = new LessonCards();
+        x.test(3, 400, 300);
+        due("24 1, 2, 2: question 2 has 1200 and 1400, 1 has 1200 and 800", x.told(1, 1), 2);
+        due("24 1, 2, 4: both have 2400 and 1600", x.told(2, 1), 1);
+        weights("1, 2, 4", x, 1, 2, 4);
     }
 
     /** "the greatest WEIGHT .. behind a right answer, and that behind a wrong one .., are together the greatest". */

@@ -59,21 +59,12 @@ public final class PromiseTest {
         Dues.due(call, got, want);
     }
 
-    /** An object with cards of one side each. */
     private static LessonCards withCards(int cards) {
-        LessonCards x = new LessonCards();
-        for (int i = 0; i < cards; i++) {
-            x.card(1);
-        }
-        return x;
+        return Made.likeCards(cards);
     }
 
-    /** Starts pupil 0's day and answers all in THE ROW likewise. */
     private static void startAndAnswer(LessonCards x, int answer) {
-        int size = x.start(0);
-        for (int i = 0; i < size; i++) {
-            x.answer(0, answer);
-        }
+        Made.startAndAnswer(x, answer);
     }
 
     /** One card with one side, answered once by a rule on day 0 by pupil 0. */
@@ -752,13 +743,8 @@ public final class PromiseTest {
         due("14 another side's", x.memory(0, 0, 1, 0), 0);
     }
 
-    /** F as the document tells it. */
     private static int chance(int q) {
-        int f = 1000;
-        for (int i = 0; i < q; i++) {
-            f = f * 9934 / 10000;
-        }
-        return f;
+        return Made.chance(q);
     }
 
     private static void chanceAndDue() {
