@@ -14,6 +14,7 @@ public final class CardEdgesTest {
         noRing();
         noLongRing();
         leansOfTheLastCard();
+        ringOverManyWays();
         refusedLeanIsNotThere();
         ruleZeroToTwo();
         oneRuleForAll();
@@ -225,6 +226,24 @@ public final class CardEdgesTest {
             due("3 and from there", x.lean(5, 1 + by), RING);
             due("3 beside it: none", x.lean(5, 1 + (by + 1) % 4), 1);
         }
+    }
+
+    /** Layers of four cards, each leaning on all four of the next: a ring is found over however many ways. */
+    private static void ringOverManyWays() {
+        int layers = 20;
+        LessonCards x = Made.likeCards(4 * layers + 1);
+        for (int card = 0; card < 4 * layers - 4; card++) {
+            for (int i = 0; i < 4; i++) {
+                due("3 lean", x.lean(card, card / 4 * 4 + 4 + i), 1 + i);
+            }
+        }
+        for (int card = 0; card < 4 * layers - 4; card++) {
+            due("3 a ring from the last layer to card " + card, x.lean(4 * layers - 1, card), RING);
+        }
+        due("3 beside it: the last layer's own", x.lean(4 * layers - 1, 4 * layers - 2), 1);
+        due("3 which is a ring then", x.lean(4 * layers - 2, 4 * layers - 1), RING);
+        due("3 beside it: a card apart", x.lean(4 * layers - 1, 4 * layers), 2);
+        due("3 which is a ring over all then", x.lean(4 * layers, 0), RING);
     }
 
     /** "What is refused changes nothing": neither NONE nor RING leaves a lean. */
