@@ -7,7 +7,7 @@ public final class LessonCards {
     /** What memory() answers where there is nothing, as -1 tells there that a side is NEW. */
     private static final int NOTHING = -2;
 
-    private static final int CARDS = 120, SIDES = 4, LEANS = 4, PUPILS = 4;
+    private static final int CARDS = 120, SIDES = 4, PLACES = CARDS * SIDES, LEANS = 4, PUPILS = 4;
     private static final int LAST_DAY = 100000, LONGEST_STEP = 1000, LOGGED = 3000;
     private static final int MOST_OF_DUE = 400, MOST_OF_NEW = 100, GREATEST_NUMBER = 100000;
     private static final int PLANNED_DAYS = 60, EVENED_DAYS = 60, LONGEST_DELAY = 20;
@@ -970,7 +970,7 @@ public final class LessonCards {
             int count = reach(from, 0);
             for (int i = 0; i < count && i < reached.length; i++) {
                 Card card = cardAt(reached[i]);
-                for (int k = 0; card != null && k < card.leanCount && k < LEANS; k++) {
+                for (int k = 0; card != null && k < card.leanCount && k < card.leans.length; k++) {
                     count = reach(card.leans[k], count);
                 }
             }
@@ -1027,11 +1027,10 @@ public final class LessonCards {
 
     /** Sides put on days so that the greatest load is least. */
     private static final class Evening {
-        /** The sides to put, by their first day, card and side. */
-        private final int[] places = new int[CARDS * SIDES];
-        private final int[] firstDays = new int[CARDS * SIDES];
+        /** The sides to put, each as its first day times PLACES, and its place: so they are in their order. */
+        private final int[] waiting = new int[PLACES];
         private int count;
-        private final int[] days = new int[CARDS * SIDES];
+        private final int[] days = new int[PLACES];
         private final int[] loads = new int[EVENED_DAYS + LONGEST_DELAY + 1];
         private boolean made;
 
@@ -1047,20 +1046,18 @@ public final class LessonCards {
             made = true;
         }
 
-        /** Places come ascending: among like first days the later ones stay behind. */
         private void addSide(int place, int firstDay) {
-            if (firstDay > EVENED_DAYS || count >= places.length) {
+            if (firstDay > EVENED_DAYS || count >= waiting.length) {
                 return;
             }
+            int side = firstDay * PLACES + place;
             int at = count;
-            while (at > 0 && at < places.length && firstDays[at - 1] > firstDay) {
-                places[at] = places[at - 1];
-                firstDays[at] = firstDays[at - 1];
+            while (at > 0 && at < waiting.length && waiting[at - 1] > side) {
+                waiting[at] = waiting[at - 1];
                 at--;
             }
-            if (at >= 0 && at < places.length) {
-                places[at] = place;
-                firstDays[at] = firstDay;
+            if (at >= 0 && at < waiting.length) {
+                waiting[at] = side;
             }
             count++;
         }
@@ -1080,11 +1077,11 @@ public final class LessonCards {
             int next = 0;
             for (int day = 0; day < loads.length; day++) {
                 int end = next;
-                while (end < count && end < places.length && end - next < g && firstDays[end] <= day) {
-                    if (firstDays[end] + w < day) {
+                while (end < count && end < waiting.length && end - next < g && waiting[end] / PLACES <= day) {
+                    if (waiting[end] / PLACES + w < day) {
                         return false;
                     }
-                    putOn(places[end], day);
+                    putOn(waiting[end] % PLACES, day);
                     end++;
                 }
                 loads[day] = end - next;
